@@ -722,13 +722,16 @@ public final class TablePager {
             }
         }
 
-        /** All rows are tried: the last one fits where one before it may not, as nothing is carried forward behind it. */
+        /** Behind a row that does not fit none does: each has at least the line that the sums carried forward need. */
         private int lastThatFits(Table table, int first, int endRows, int pageHeight) {
             int last = NONE;
             sheet.begin(table, first);
             for (int r = first; r < table.rows; r++) {
                 sheet.take(table, r);
-                if (isIn(endRows, r) && sheet.needed() <= pageHeight) {
+                if (sheet.needed() > pageHeight) {
+                    break;
+                }
+                if (isIn(endRows, r)) {
                     last = r;
                 }
             }
