@@ -24,7 +24,7 @@ public final class TablePager {
     private static final int MOST_SLOTS = 2;
     private static final int MOST_COMMANDS = 3;
     private static final int MOST_ROUNDS = 99;
-    /** A group of five digits. */
+    /** A group of a script is a number below this: five digits. */
     private static final long GROUP = 100000L;
 
     private final Text text = new Text();
@@ -387,7 +387,7 @@ public final class TablePager {
         return (bits >>> r & 1) != 0;
     }
 
-    /** The state: rows, amounts, spans and heights. Its callers look at rows, columns and spans before they name them. */
+    /** The state. Its callers look whether a row, a column or a span exists before they name it. */
     private static final class Table {
         private int columns;
         private int rows;

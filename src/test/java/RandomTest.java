@@ -134,7 +134,8 @@ public final class RandomTest {
             case 15: return call(15, some(n), random.nextInt(grows ? 2 : 5), 0);
             case 16: return call(grows ? 13 : 16, grows ? in(1, 6) : some(n), in(0, 6), 0);
             case 17: return call(17, some(n), some(n), random.nextInt(2));
-            case 18: return random.nextInt(3) == 0 ? call(18, some(spans), 0, 0) : call(17, some(n), some(n), random.nextInt(2));
+            case 18: return random.nextInt(3) == 0 ? call(18, some(spans), 0, 0)
+                    : call(17, some(n), some(n), random.nextInt(2));
             case 19: return setSomeHeight();
             case 20: return random.nextInt(3) == 0 ? call(20, 0, 0, 0) : call(13, in(1, 6), in(0, 6), 0);
             case 21: return call(21, in(1, 24), 0, 0);

@@ -78,6 +78,15 @@ public final class ScriptTest {
         x.addRow(1, 0);
         due(x, 1, 11000, 0);
         due(x, 1, 22301, NONE);
+        x.setHeight(0, 6);
+        // A page of four rows, six of three, one of two; with a heading of 4 lines 24 pages of a row each.
+        due(x, 1, 60008, NONE);
+        due(x, 1, 60007, 0);
+        due(x, 2, 5104060023L, 1);
+        due(x, 2, 5104060024L, NONE);
+        due(x, 1, 70518, NONE);
+        due(x, 1, 70519, 0);
+        due(x, 1, 70723, NONE);
         due(x, 1, 22401, 0);
     }
 

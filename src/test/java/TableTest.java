@@ -15,6 +15,7 @@ public final class TableTest {
         pageEnds();
         overfullPages();
         keptTogether();
+        fullTable();
         sums();
         richest();
         CHECK.finish();
@@ -35,6 +36,9 @@ public final class TableTest {
         x.setHeight(0, 40);
         CHECK.same("about(5) on one page", x.about(5), 1);
         CHECK.same("about(7) on one page", x.about(7), 0);
+        x.setHeight(0, 11);
+        CHECK.same("about(5) on two pages", x.about(5), 2);
+        CHECK.same("about(7): a span on two pages is cut", x.about(7), 1);
     }
 
     private static void row() {
@@ -185,6 +189,40 @@ public final class TableTest {
         CHECK.same("page(1, 1)", x.page(1, 1), 3);
         CHECK.same("page(1, 2)", x.page(1, 2), 9);
         CHECK.same("about(7): a span that may not be cut never is", x.about(7), 0);
+    }
+
+    /** As many rows and spans as there may be. */
+    private static void fullTable() {
+        TablePager x = new TablePager();
+        for (int r = 0; r < 24; r++) {
+            x.addRow(6, 1);
+            x.keep(r, true);
+        }
+        for (int s = 0; s < 5; s++) {
+            x.addSpan(20 + s / 2, 23, true);
+        }
+        x.addSpan(0, 23, true);
+        CHECK.same("about(5), all rows kept together", x.about(5), 1);
+        CHECK.same("page(0, 1)", x.page(0, 1), 23);
+        CHECK.same("page(0, 2)", x.page(0, 2), 1 + 24 * 6 + 1);
+        CHECK.same("row(23, 4)", x.row(23, 4), 0);
+        for (int r = 0; r < 24; r++) {
+            x.keep(r, false);
+        }
+        CHECK.same("about(5), two rows a page", x.about(5), 12);
+        CHECK.same("about(7)", x.about(7), 5);
+        CHECK.same("page(11, 0)", x.page(11, 0), 22);
+        CHECK.same("page(11, 4)", x.page(11, 4), 5);
+        CHECK.same("page(10, 4)", x.page(10, 4), 1);
+        CHECK.same("row(23, 4)", x.row(23, 4), 11);
+        CHECK.same("removeSpan(0) of six", x.removeSpan(0), 12);
+        CHECK.same("page(11, 4) then", x.page(11, 4), 4);
+        CHECK.same("span(4, 0)", x.span(4, 0), 0);
+        CHECK.same("row(22, 3)", x.row(22, 3), 1);
+        CHECK.same("addSpan(22, 23, false)", x.addSpan(22, 23, false), 5);
+        CHECK.same("row(22, 3) in a span that may not be cut", x.row(22, 3), 0);
+        CHECK.same("removeRow(23)", x.removeRow(23), 2);
+        CHECK.same("page(11, 4) of what is left", x.page(11, 4), 4);
     }
 
     private static void sums() {

@@ -175,6 +175,7 @@ public final class TextTest {
         due(twelve + "s08090", NONE);
         due(twelve + "s0808", 69);
         due(twelve + "s10110", NONE);
+        due(twelve + "s1010", 69);
         due(twelve + "s11", 67);
         due(twelve + "s02", 68);
     }

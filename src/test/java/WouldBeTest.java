@@ -12,6 +12,7 @@ public final class WouldBeTest {
         evenestPlaces();
         evenestOfSeveral();
         evenestOverfull();
+        evenestOfManyRows();
         emptyFrom();
         changeNothing();
         CHECK.finish();
@@ -93,6 +94,32 @@ public final class WouldBeTest {
         cuts(Check.loaded("T1060r6+00r6+00"), "two overfull pages", 2000, 0, 1);
         cuts(Check.loaded("T1060r6+00kr1+00"), "an overfull page alone", 1000, 1);
         cuts(Check.loaded("T1064r6+00n1kr6+00kr6+00h13"), "much too full", 19000, 2);
+    }
+
+    /** Nothing of an earlier question stays, and neither method needs the other one asked before. */
+    private static void evenestOfManyRows() {
+        TablePager x = new TablePager();
+        for (int r = 0; r < 24; r++) {
+            x.addRow(6, 0);
+        }
+        x.setHeight(0, 8);
+        CHECK.same("evenCut(23) without evenest()", x.evenCut(23), 23);
+        CHECK.same("evenCut(24)", x.evenCut(24), NONE);
+        CHECK.same("evenest() of 24 pages", x.evenest(), 22 * 1000);
+        x.setHeight(0, 20);
+        // Three rows on the first page, which is full, and on the last one; nine times two rows between them.
+        CHECK.same("evenCut(0) of what has changed", x.evenCut(0), 2);
+        CHECK.same("evenest()", x.evenest(), 9 * 25);
+        x.keep(2, true);
+        CHECK.same("evenCut(0) where it can't be cut", x.evenCut(0), 1);
+        CHECK.same("evenest()", x.evenest(), 36 + 10 * 25);
+        x.undo();
+        for (int r = 23; r >= 2; r--) {
+            x.removeRow(r);
+        }
+        CHECK.same("evenest() of what is left", x.evenest(), 0);
+        CHECK.same("evenCut(0)", x.evenCut(0), 1);
+        CHECK.same("evenCut(1)", x.evenCut(1), NONE);
     }
 
     private static void emptyFrom() {
