@@ -164,7 +164,7 @@ public final class ScriptTest {
         for (int m : new int[] {0, 100, -1, Integer.MIN_VALUE, Integer.MAX_VALUE}) {
             CHECK.argument("simulate(1, " + m + ")", () -> x.simulate(1, m));
         }
-        // The first r of the seed 0 is 167953991: 2 when divided by 3; there is no row to be removed.
+        // The first r of the seed 0 is 167951807: 2 when divided by 3; there is no row to be removed.
         CHECK.same("simulate(0, 1)", x.simulate(0, 1), 0);
     }
 
