@@ -1,6 +1,7 @@
 import java.util.List;
 import java.util.Set;
 import java.util.TreeSet;
+import java.util.regex.Pattern;
 
 /**
  * Tests of single sentences of the document. Each is told by the number of its promise, the sentence, and a run of
@@ -9,7 +10,9 @@ import java.util.TreeSet;
  * <pre>
  * new                       a new object (each test begins with one, too)
  * type T1200r1+00           append, for each of the characters
- * text T5 = 1               a new object, type, and errorPosition() = 1; a load() behind it is refused, if it is due
+ * type T1200{24 r1+00}      the same, with 24 times r1+00
+ * text T5 = 1               a new object, type, and errorPosition() = 1; then load(), which must be refused unless
+ *                           NONE is due
  * addRow(1, 0)              a call that must not be refused; its answer is another test's
  * 24 * addRow(1, 0)         the same 24 times
  * addRow(1, 0) = 3          a call and the answer that is due (NONE is -999999)
@@ -23,6 +26,7 @@ import java.util.TreeSet;
  * was not.
  */
 final class Edges {
+    private static final Pattern REPEATED = Pattern.compile("\\{(\\d+) ([^}]*)\\}");
     private final Check check;
     private final Doc doc = new Doc();
     private final Set<String> names = new TreeSet<>();
@@ -84,7 +88,8 @@ final class Edges {
         }
     }
 
-    private void type(String text) {
+    private void type(String told) {
+        String text = REPEATED.matcher(told).replaceAll(m -> m.group(2).repeat(Integer.parseInt(m.group(1))));
         for (int i = 0; i < text.length(); i++) {
             answers("append(" + (int) text.charAt(i) + ")", false);
         }

@@ -171,8 +171,8 @@ final class EdgesOfPages {
     }
 
     private static void ends(Edges edges) {
-        edges.of(11, "They are laid one after the other: each page ends behind the last row behind which the table can be"
-                + " cut (or ends) so that the page is not overfull;", """
+        edges.of(11, "They are laid one after the other: each page ends behind the last row behind which the table can"
+                + " be cut (or ends) so that the page is not overfull;", """
             type T1100r3+00r3+00r3+00r3+00r3+00r3+00
             load()
             # 3 rows and a sum are just a page; with both sums 2 rows.
@@ -452,8 +452,8 @@ final class EdgesOfPages {
             still carried(2, 0) = 49
             carried(3, 0) ! index
             """);
-        edges.of(13, "The sum carried forward of a page in a column is the sum of the amounts of all rows up to its last"
-                + " one;", """
+        edges.of(13, "The sum carried forward of a page in a column is the sum of the amounts of all rows up to its"
+                + " last one;", """
             # The greatest sum and the least one.
             type T4400r1+99-99+00+01
             load()
@@ -466,11 +466,11 @@ final class EdgesOfPages {
             carried(0, 2) = 0
             carried(0, 3) = 1
             new
-            type T1400r1+99r1+99r1+99r1+99r1+99r1+99r1+99r1+99r1+99r1+99r1+99r1+99r1+99r1+99r1+99r1+99r1+99r1+99r1+99r1+99r1+99r1+99r1+99r1+99
+            type T1400{24 r1+99}
             load() = 24
             carried(0, 0) = 2376
             new
-            type T1400r1-99r1-99r1-99r1-99r1-99r1-99r1-99r1-99r1-99r1-99r1-99r1-99r1-99r1-99r1-99r1-99r1-99r1-99r1-99r1-99r1-99r1-99r1-99r1-99
+            type T1400{24 r1-99}
             load() = 24
             carried(0, 0) = -2376
             """);

@@ -80,8 +80,8 @@ final class EdgesOfScripts {
             runScript(3, 110004000060000) = NONE
             runScript(3, 110006000060001) = 1
             """);
-        edges.of(27, "the first command is the highest group of the number (with zeros before it, if it has fewer digits).",
-                """
+        edges.of(27, "the first command is the highest group of the number (with zeros before it, if it has fewer"
+                + " digits).", """
             # An added row makes a page, so that the order shows.
             runScript(2, 1100060000) = 1
             runScript(2, 6000011000) = NONE
@@ -484,7 +484,8 @@ final class EdgesOfScripts {
 
     private static void simulateNumbers(Edges edges) {
         // Without rows only a row that is added shows: 1001, as against 0.
-        edges.of(28, "with long overflow), and r = (int) (x >>> 33) is computed.",
+        edges.of(28, "Each round first replaces x by x * 6364136223846793005L + 1442695040888963407L (with long overflow),"
+                + " and r = (int) (x >>> 33) is computed.",
                 // The least and the greatest r, and those round the middle; whatever is in the 33 bits below.
                 simulated(0, 1001) + simulated(1, 0) + simulated(2, 0) + simulated(3, 1001)
                 + simulated(1073741823L, 1001) + simulated(1073741824L, 0) + simulated(1073741825L, 0)
@@ -509,19 +510,25 @@ final class EdgesOfScripts {
                 + "simulate(" + seedOfTwo(2, 0, 1, 0) + ", 2)\n");
     }
 
+    /**
+     * Behind a row of 6 lines that stays with the next one, a row of this height and with this note makes a page of
+     * so many lines and not one less; the note has 3 lines, the others 1.
+     */
+    private static String added(long r, int height, int note) {
+        int lines = 6 + height + (note == 0 ? 0 : 3);
+        String high = note == 0 ? "" : "setHeight(" + (note + 1) + ", 3)\n";
+        String low = note == 0 ? "" : "setHeight(" + (note + 1) + ", 1)\n";
+        return high + "setHeight(0, " + lines + ")\n" + simulated(r, 1002)
+                + "setHeight(0, " + (lines - 1) + ")\n" + simulated(r, 1102) + low;
+    }
+
     private static void simulateAdds(Edges edges) {
-        StringBuilder heights = new StringBuilder("type T1060r5+00kr1+00\nload()\nremoveRow(1)\n");
-        // 5 lines and a row that they stay with: 6 lines with a row of 1 line, 11 with one of 6.
-        heights.append(simulated(0, 1002)).append(simulated(12, 1102)).append(simulated(21, 1102));
-        heights.append("setHeight(0, 11)\n").append(simulated(21, 1002)).append("setHeight(0, 10)\n");
-        heights.append(simulated(21, 1102));
-        // Its note: none (r is 0), 1 (48) and 6 (192).
-        heights.append("setHeight(0, 7)\n").append(simulated(0, 1002)).append(simulated(48, 1002));
-        heights.append(simulated(192, 1002)).append("setHeight(0, 6)\n").append(simulated(0, 1002));
-        heights.append(simulated(48, 1102)).append(simulated(192, 1102));
-        heights.append("setHeight(0, 8)\nsetHeight(2, 3)\n").append(simulated(48, 1102)).append(simulated(192, 1002));
-        heights.append("setHeight(2, 1)\nsetHeight(7, 3)\n").append(simulated(48, 1002)).append(simulated(192, 1102));
-        edges.of(28, "a row of the height 1 + r / 4 % 6 with the note r / 32 % 7 is added.", heights.toString());
+        // Round the ends of r / 4, r / 4 % 6, r / 32 and r / 32 % 7, and the greatest r that adds a row.
+        edges.of(28, "a row of the height 1 + r / 4 % 6 with the note r / 32 % 7 is added.",
+                "setHeight(1, 0)\naddRow(6, 0)\nkeep(0, true)\n"
+                + added(0, 1, 0) + added(3, 1, 0) + added(9, 3, 0) + added(12, 4, 0) + added(21, 6, 0) + added(24, 1, 0)
+                + added(30, 2, 0) + added(33, 3, 1) + added(63, 4, 1) + added(93, 6, 2) + added(96, 1, 3)
+                + added(192, 1, 6) + added(222, 2, 6) + added(225, 3, 0) + added(2147483646L, 2, 3));
         edges.of(28, "If r % 3 is 0 and there are fewer than 24 rows,", "setHeight(0, 40)\n"
                 + simulated(0, 1001) + "addRow(1, 0)\n" + simulated(0, 1002) + "21 * addRow(1, 0)\n"
                 + simulated(0, 1023) + "addRow(1, 0)\n" + simulated(0, 1024) + simulated(1, 1023) + simulated(2, 1022)
@@ -565,8 +572,8 @@ final class EdgesOfScripts {
         rows.append(simulated(21, 10910)).append("addRow(6, 0)\n");
         rows.append(simulated(21, 11911)).append(simulated(2, 9909)).append("14 * addRow(6, 0)\n");
         rows.append(simulated(21, 24924)).append(simulated(1, 23924)).append(simulated(2, 23923));
-        edges.of(28, "Returns 1000 * (the number of pages at the end) + 100 * (the number of overfull ones, or 9 if there"
-                + " are more) + (the number of rows).", rows.toString());
+        edges.of(28, "Returns 1000 * (the number of pages at the end) + 100 * (the number of overfull ones, or 9 if"
+                + " there are more) + (the number of rows).", rows.toString());
     }
 
     private static void simulateRounds(Edges edges) {

@@ -322,6 +322,17 @@ final class EdgesOfTable {
             setHeight(0, 12)
             about(5) = 1
             still about(7) = 0
+            # Asked at once, behind calls that tell no number of pages.
+            setHeight(0, 6)
+            removeRow(2)
+            about(7) = 2
+            removeRow(1)
+            about(7) = 0
+            2 * addRow(6, 0)
+            addSpan(0, 1, true)
+            about(7) = 1
+            undo()
+            about(7) = 0
             """);
     }
 
@@ -396,8 +407,8 @@ final class EdgesOfTable {
             keep(1, false)
             row(1, 3) = 1
             """);
-        edges.of(7, "there is no span that may not be cut, whose first row is this row or one before it and whose last row"
-                + " is behind it.", """
+        edges.of(7, "there is no span that may not be cut, whose first row is this row or one before it and whose last"
+                + " row is behind it.", """
             7 * addRow(1, 0)
             addSpan(2, 4, false)
             row(1, 3) = 1
@@ -542,6 +553,27 @@ final class EdgesOfTable {
             span(1, 3) = 2
             span(2, 3) = 3
             span(3, 3) = 2
+            # Asked at once, behind calls that tell no number of pages.
+            undo()
+            span(2, 3) = 1
+            setHeight(0, 6)
+            save(0)
+            setHeight(0, 40)
+            restore(0)
+            span(2, 3) = 4
+            new
+            # Of an object that has never had a text, from one page to as many as there can be.
+            setHeight(0, 6)
+            setHeight(1, 4)
+            24 * addRow(2, 0)
+            addSpan(0, 23, true)
+            addSpan(22, 23, false)
+            addSpan(21, 22, true)
+            span(0, 3) = 23
+            span(1, 3) = 1
+            span(2, 3) = 2
+            removeSpan(1)
+            span(0, 3) = 24
             """);
     }
 

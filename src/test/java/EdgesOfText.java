@@ -1,10 +1,5 @@
 /** The sentences about the text: promises 2 to 5, and "Text" among the terms. */
 final class EdgesOfText {
-    private static final String ROWS_24 = "r1+00".repeat(24);
-    private static final String ROWS_12 = "r1+00".repeat(12);
-    /** A table of 160 characters. */
-    private static final String FULL = "T1200" + ROWS_24 + "k".repeat(35);
-
     private EdgesOfText() {
     }
 
@@ -61,8 +56,8 @@ final class EdgesOfText {
             clearText() = 160
             append(84) = 1
             """);
-        edges.of(2, "The object has a text buffer of at most 160 characters.", "type " + FULL + """
-
+        edges.of(2, "The object has a text buffer of at most 160 characters.", """
+            type T1200{24 r1+00}{35 k}
             append(107) ! state
             errorPosition() = NONE
             load() = 24
@@ -117,8 +112,7 @@ final class EdgesOfText {
             153 * append(49)
             errorPosition() = 8
             new
-            """ + "type " + FULL.substring(0, 159) + """
-
+            type T1200{24 r1+00}{34 k}
             errorPosition() = NONE
             append(120) = 160
             still errorPosition() = 159
@@ -144,7 +138,7 @@ final class EdgesOfText {
             text T1200r1+00r1+00s000 = 19
             text T1200r1+00r1+00s0001 = 20
             text T1200r1+00r1+00s00011 = NONE
-            """ + "text " + FULL.substring(0, 155) + "h11h1 = 160\n" + """
+            text T1200{24 r1+00}{30 k}h11h1 = 160
             append(49) ! state
             """);
     }
@@ -208,12 +202,15 @@ final class EdgesOfText {
             text T1200h11r1+00 = NONE
             text T1200r1+00h11kn1r1+00n2ks00010h62r1+00s00021 = NONE
             load() = 3
-            """ + "text T1200" + "h13".repeat(51) + " = NONE\n" + "text T1200r1+00" + "k".repeat(150) + " = NONE\n");
+            text T1200{51 h13} = NONE
+            text T1200r1+00{150 k} = NONE
+            """);
     }
 
     private static void rows(Edges edges) {
         edges.of(4, "the letter r, a digit from 1 to 6 for the height of the next row,", """
             text T1200r/ = 6
+            text T1200r+00 = 6
             text T1200r0+00 = 6
             text T1200r1+00 = NONE
             row(0, 0) = 1
@@ -253,12 +250,16 @@ final class EdgesOfText {
             text T4200r1+01-02+03 = 16
             text T4200r1+01-02+03-04+05 = 19
             """);
-        edges.of(4, "(at most 24 of these);", "text T1200" + "r1+00".repeat(23) + " = NONE\nabout(1) = 23\n"
-                + "text T1200" + ROWS_24 + " = NONE\nabout(1) = 24\n"
-                + "text T1200" + ROWS_24 + "r = 125\n"
-                + "text T1200" + ROWS_24 + "r1+00 = 125\n"
-                + "text T1200" + ROWS_24 + "kr1+00 = 126\n"
-                + "text T1200" + ROWS_24 + "kn6h11s22231 = NONE\n");
+        edges.of(4, "(at most 24 of these);", """
+            text T1200{23 r1+00} = NONE
+            about(1) = 23
+            text T1200{24 r1+00} = NONE
+            about(1) = 24
+            text T1200{24 r1+00}r = 125
+            text T1200{24 r1+00}r1+00 = 125
+            text T1200{24 r1+00}kr1+00 = 126
+            text T1200{24 r1+00}kn6h11s22231 = NONE
+            """);
     }
 
     private static void marks(Edges edges) {
@@ -354,6 +355,20 @@ final class EdgesOfText {
             text T1200r1+00r1+00kn1h11s00010r1+00 = NONE
             span(0, 1) = 1
             """);
+        edges.of(5, "the letter s, two digits for the first row of a span, two for its last row,", """
+            text T1200{3 r1+00}S00011 = 20
+            text T1200{3 r1+00}t00011 = 20
+            text T1200{3 r1+00}s/0011 = 21
+            text T1200{3 r1+00}s0/011 = 22
+            text T1200{3 r1+00}s00/11 = 23
+            text T1200{3 r1+00}s000/1 = 24
+            text T1200{3 r1+00}s000:1 = 24
+            text T1200{3 r1+00}s01021s00021 = NONE
+            span(0, 0) = 1
+            span(0, 1) = 2
+            span(1, 0) = 0
+            span(1, 1) = 2
+            """);
         edges.of(4, "and a 0 (it may not be cut) or a 1 (it may be cut):", """
             text T1200r1+00r1+00s0001/ = 20
             text T1200r1+00r1+00s00010 = NONE
@@ -364,12 +379,18 @@ final class EdgesOfText {
             text T1200r1+00r1+00s0001k = 20
             text T1200r1+00r1+00s000111 = 21
             """);
-        String five = "T1200r1+00r1+00" + "s00011".repeat(5);
-        edges.of(4, "at most 6 of these.", "text " + five + " = NONE\nabout(2) = 5\n"
-                + "text " + five + "s00010 = NONE\nabout(2) = 6\nspan(5, 2) = 0\nspan(4, 2) = 1\n"
-                + "text " + five + "s00010s = 51\n"
-                + "text " + five + "s00010s00010 = 51\n"
-                + "text " + five + "s00010kn1h11r1+00 = NONE\n");
+        edges.of(4, "at most 6 of these.", """
+            text T1200r1+00r1+00{5 s00011} = NONE
+            about(2) = 5
+            text T1200r1+00r1+00{5 s00011}s00010 = NONE
+            about(2) = 6
+            span(4, 2) = 1
+            span(5, 2) = 0
+            text T1200r1+00r1+00{5 s00011}s00010s = 51
+            text T1200r1+00r1+00{6 s00011}s00010 = 51
+            text T1200r1+00r1+00{6 s00011}r1+00s = 56
+            text T1200r1+00r1+00{6 s00011}kn1h11r1+00 = NONE
+            """);
         edges.of(5, "numbered from 0 in the order in which they were added.", """
             text T1200r1+00r1+00r1+00s01021s00020s00011 = NONE
             span(0, 0) = 1
@@ -382,30 +403,62 @@ final class EdgesOfText {
     }
 
     private static void spanRows(Edges edges) {
-        String two = "text T1200r1+00r1+00";
-        String twelve = "text T1200" + ROWS_12;
-        String all = "text T1200" + ROWS_24;
-        edges.of(4, "both rows are told ahead, the last one behind the first one;",
-                // With two rows 00 alone can be the first one, 01 alone the last one.
-                two + "s00011 = NONE\n" + two + "s00001 = 19\n" + two + "s00021 = 19\n" + two + "s01011 = 17\n"
-                + two + "s01001 = 17\n" + two + "s02 = 17\n" + two + "s1 = 16\n" + two + "s001 = 18\n"
-                // Rows that are told behind the span do not count.
-                + two + "s00021r1+00 = 19\n" + two + "r1+00s00021 = NONE\n" + two + "r1+00s01021 = NONE\n"
-                + two + "r1+00s02021 = 22\n" + two + "r1+00s01011 = 24\n" + two + "r1+00s01001 = 24\n"
-                + two + "r1+00s00031 = 24\n"
-                // The greatest numbers of a full table.
-                + all + "s22231 = NONE\n" + all + "s00231 = NONE\n" + all + "s2323 = 127\n" + all + "s2222 = 129\n"
-                + all + "s2224 = 129\n" + all + "s2225 = 129\n" + all + "s223 = 128\n" + all + "s221 = 128\n");
-        edges.of(4, "(a digit is not allowed if no number that is allowed begins with it and those before it);",
-                twelve + "s09101 = NONE\n" + twelve + "s09111 = NONE\n" + twelve + "s0912 = 69\n"
-                + twelve + "s090 = 68\n" + twelve + "s080 = 69\n" + twelve + "s0808 = 69\n"
-                + twelve + "s08091 = NONE\n" + twelve + "s09 = 68\n" + twelve + "s10111 = NONE\n"
-                + twelve + "s1010 = 69\n" + twelve + "s100 = 68\n" + twelve + "s11 = 67\n" + twelve + "s2 = 66\n"
-                // With eleven rows, 10 is the last one and 09 the last one that can be a first one.
-                + "text T1200" + "r1+00".repeat(11) + "s1 = 61\n" + "text T1200" + "r1+00".repeat(11) + "s09101 = NONE\n"
-                + "text T1200" + "r1+00".repeat(10) + "s001 = 58\n" + "text T1200" + "r1+00".repeat(10) + "s08091 = NONE\n"
-                + "text T1200" + "r1+00".repeat(10) + "s09 = 57\n" + "text T1200" + "r1+00".repeat(20) + "s182 = 108\n"
-                + "text T1200" + "r1+00".repeat(21) + "s18201 = NONE\n");
+        edges.of(4, "both rows are told ahead, the last one behind the first one;", """
+            # With two rows 00 alone can be the first one, 01 alone the last one.
+            text T1200{2 r1+00}s00011 = NONE
+            text T1200{2 r1+00}s00001 = 19
+            text T1200{2 r1+00}s00021 = 19
+            text T1200{2 r1+00}s01011 = 17
+            text T1200{2 r1+00}s01001 = 17
+            text T1200{2 r1+00}s02 = 17
+            text T1200{2 r1+00}s1 = 16
+            text T1200{2 r1+00}s001 = 18
+            # Rows that are told behind the span do not count.
+            text T1200{2 r1+00}s00021r1+00 = 19
+            text T1200{3 r1+00}s00021 = NONE
+            text T1200{3 r1+00}s01021 = NONE
+            text T1200{3 r1+00}s00031 = 24
+            text T1200{3 r1+00}s01001 = 24
+            text T1200{3 r1+00}s01011 = 24
+            text T1200{3 r1+00}s02021 = 22
+            # The greatest numbers of a full table.
+            text T1200{24 r1+00}s00011 = NONE
+            text T1200{24 r1+00}s00231 = NONE
+            text T1200{24 r1+00}s22231 = NONE
+            text T1200{24 r1+00}s22221 = 129
+            text T1200{24 r1+00}s22241 = 129
+            text T1200{24 r1+00}s2221 = 129
+            text T1200{24 r1+00}s2213 = 128
+            text T1200{24 r1+00}s2233 = 128
+            text T1200{24 r1+00}s23231 = 127
+            """);
+        edges.of(4, "(a digit is not allowed if no number that is allowed begins with it and those before it);", """
+            text T1200{12 r1+00}s08091 = NONE
+            text T1200{12 r1+00}s08081 = 69
+            text T1200{12 r1+00}s09101 = NONE
+            text T1200{12 r1+00}s09111 = NONE
+            text T1200{12 r1+00}s09121 = 69
+            # Behind 09 no number that begins with a 0 can be the last one's.
+            text T1200{12 r1+00}s09 = 68
+            text T1200{12 r1+00}s09091 = 68
+            text T1200{12 r1+00}s10111 = NONE
+            text T1200{12 r1+00}s10101 = 69
+            text T1200{12 r1+00}s10091 = 68
+            text T1200{12 r1+00}s11111 = 67
+            text T1200{12 r1+00}s2 = 66
+            # With ten rows and with eleven: numbers that begin with a 1.
+            text T1200{10 r1+00}s08091 = NONE
+            text T1200{10 r1+00}s09091 = 57
+            text T1200{10 r1+00}s00101 = 58
+            text T1200{11 r1+00}s00101 = NONE
+            text T1200{11 r1+00}s09101 = NONE
+            text T1200{11 r1+00}s10101 = 61
+            # With twenty and with twenty-one: numbers that begin with a 2.
+            text T1200{20 r1+00}s18201 = 108
+            text T1200{21 r1+00}s18201 = NONE
+            text T1200{21 r1+00}s20201 = 111
+            text T1200{22 r1+00}s20211 = NONE
+            """);
     }
 
     private static void errors(Edges edges) {
@@ -460,12 +513,20 @@ final class EdgesOfText {
     }
 
     private static void load(Edges edges) {
-        edges.of(5, "Returns the number of rows.", "load() ! state\n"
-                + "type T1200\nload() = 0\n"
-                + "type r1+00\nload() = 1\n"
-                + "type " + "r1+00".repeat(22) + "\nload() = 23\n"
-                + "type r1+00\nload() = 24\n"
-                + "type r1+00\nload() ! state\nabout(1) = 24\n");
+        edges.of(5, "Returns the number of rows.", """
+            load() ! state
+            type T1200
+            load() = 0
+            type r1+00
+            load() = 1
+            type {22 r1+00}
+            load() = 23
+            type r1+00
+            load() = 24
+            type r1+00
+            load() ! state
+            about(1) = 24
+            """);
         edges.of(5, "Throws IllegalStateException if the text is not a table", """
             load() ! state
             type T120
@@ -515,8 +576,8 @@ final class EdgesOfText {
             row(1, 2) = 0
             span(0, 0) ! index
             """);
-        edges.of(5, "Keeps the text.", "type " + FULL + """
-
+        edges.of(5, "Keeps the text.", """
+            type T1200{24 r1+00}{35 k}
             load() = 24
             append(107) ! state
             errorPosition() = NONE

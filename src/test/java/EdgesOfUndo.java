@@ -30,6 +30,7 @@ final class EdgesOfUndo {
         undo(edges);
         atMost(edges);
         eachAction(edges);
+        wholeState(edges);
         changeNothing(edges);
         stateAlone(edges);
         otherMethods(edges);
@@ -157,6 +158,8 @@ final class EdgesOfUndo {
         edges.of(22, "Before each action, the state is remembered.", """
             type T2100r3+01-02kn1r2+03+04n6h13s00011s00010
             load() = 2
+            clearText()
+            errorPosition() = 0
             addRow(6, 5) = 2
             undo() = 0
             about(1) = 2
@@ -194,6 +197,53 @@ final class EdgesOfUndo {
             note(1) = 3
             undo() ! state
             """);
+    }
+
+    private static void wholeState(Edges edges) {
+        String full = """
+            type T4400r1+01+02+03+04
+            load() = 1
+            22 * addRow(1, 0)
+            addRow(6, 6)
+            setAmount(23, 0, -99)
+            setAmount(23, 3, 99)
+            keep(22, true)
+            keep(23, true)
+            5 * addSpan(0, 1, true)
+            addSpan(21, 23, false)
+            """;
+        String seen = """
+            about(1) = 24
+            about(2) = 6
+            row(22, 1) = 0
+            row(22, 2) = 1
+            row(23, 0) = 6
+            row(23, 1) = 6
+            row(23, 2) = 1
+            amount(22, 3) = 0
+            amount(23, 0) = -99
+            amount(23, 3) = 99
+            span(4, 0) = 0
+            span(5, 0) = 21
+            span(5, 1) = 23
+            span(5, 2) = 0
+            """;
+        // The last rows and the last span of a full table are remembered and stored as the first ones are.
+        edges.of(22, "Before each action, the state", full + """
+            removeRow(0) = 5
+            addRow(1, 1)
+            keep(22, false)
+            undo() = 13
+            undo() = 12
+            undo() = 11
+            """ + seen);
+        edges.of(30, "Replaces the state by the one in a save slot,", full + """
+            save(1) = 24
+            removeRow(0) = 5
+            addRow(1, 1)
+            keep(22, false)
+            restore(1) = 24
+            """ + seen);
     }
 
     private static void changeNothing(Edges edges) {
@@ -385,8 +435,8 @@ final class EdgesOfUndo {
             restore(0) ! state
             restore(1) ! state
             """);
-        edges.of(30, "IndexOutOfBoundsException means that a row, a column, a span or a page does not exist, or that a save"
-                + " slot is not 0 or 1.", """
+        edges.of(30, "IndexOutOfBoundsException means that a row, a column, a span or a page does not exist, or that a"
+                + " save slot is not 0 or 1.", """
             row(0, 0) ! index
             richest(1) ! index
             span(0, 0) ! index

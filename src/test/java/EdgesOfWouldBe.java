@@ -30,7 +30,8 @@ final class EdgesOfWouldBe {
             heightFor(most) ! argument
             heightFor(1) = 13
             """);
-        edges.of(23, "Returns the smallest height of the page from 6 to 40 with which there would be at most n pages,", """
+        edges.of(23, "Returns the smallest height of the page from 6 to 40 with which there would be at most n"
+                + " pages,", """
             # 5, 6 and 7 lines: not below 6.
             type T1200r5+00
             load()
@@ -120,6 +121,14 @@ final class EdgesOfWouldBe {
             still evenest() = 1000
             removeRow(0)
             evenest() = 0
+            # And behind the last one of fewer rows than there were.
+            setHeight(1, 0)
+            3 * addRow(6, 0)
+            evenest() = 4000
+            removeRow(2)
+            evenest() = 2000
+            removeRow(1)
+            evenest() = 0
             """);
         edges.of(24, "each page that is not overfull costs the square of its empty lines,", """
             type T1060r5+00r6+00
@@ -190,8 +199,8 @@ final class EdgesOfWouldBe {
     }
 
     private static void evenestOverfull(Edges edges) {
-        edges.of(24, "an overfull page (the last one, too) costs 1000 * (the lines that it needs more than there are) alone.",
-                """
+        edges.of(24, "an overfull page (the last one, too) costs 1000 * (the lines that it needs more than there are)"
+                + " alone.", """
             type T1060r6+00
             load()
             # Just full, and the last one.
@@ -382,8 +391,8 @@ final class EdgesOfWouldBe {
     }
 
     private static void emptyFromEnds(Edges edges) {
-        edges.of(26, "Returns the lines that a page which begins with the row r and ends behind the last row that could end"
-                + " it without being overfull leaves empty;", """
+        edges.of(26, "Returns the lines that a page which begins with the row r and ends behind the last row that"
+                + " could end it without being overfull leaves empty;", """
             type T1100r3+00r3+00r3+00r3+00r3+00
             load()
             # Three rows and a sum; two rows and both sums; three rows and a sum; two rows and a sum.
