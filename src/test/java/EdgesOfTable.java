@@ -323,6 +323,8 @@ final class EdgesOfTable {
             about(5) = 1
             still about(7) = 0
             # Asked at once, behind calls that tell no number of pages.
+            undo()
+            about(7) = 2
             setHeight(0, 6)
             removeRow(2)
             about(7) = 2

@@ -59,6 +59,7 @@ final class EdgesOfText {
         edges.of(2, "The object has a text buffer of at most 160 characters.", """
             type T1200{24 r1+00}{35 k}
             append(107) ! state
+            append(120) ! state
             errorPosition() = NONE
             load() = 24
             row(23, 2) = 1

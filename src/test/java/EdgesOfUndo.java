@@ -451,6 +451,7 @@ final class EdgesOfUndo {
     private static void refusedText(Edges edges) {
         edges.of(2, NOTHING, FULL + """
             append(107) ! state
+            append(0) ! state
             append(-1) ! argument
             append(256) ! argument
             """);
