@@ -1,7 +1,9 @@
 import java.lang.reflect.InvocationTargetException;
 import java.lang.reflect.Method;
+import java.lang.reflect.Modifier;
 import java.util.HashMap;
 import java.util.Map;
+import java.util.Set;
 
 /** A call as a text tells it, for example "setAmount(0, 0, -99)"; least and most are an int's own limits. */
 final class ToldCall {
@@ -36,9 +38,15 @@ final class ToldCall {
     private static Map<String, Method> methods() {
         Map<String, Method> all = new HashMap<>();
         for (Method m : TablePager.class.getDeclaredMethods()) {
-            all.put(m.getName(), m);
+            if (Modifier.isPublic(m.getModifiers())) {
+                all.put(m.getName(), m);
+            }
         }
         return all;
+    }
+
+    static Set<String> names() {
+        return METHODS.keySet();
     }
 
     private static Object argument(String part, Class<?> type) {
